@@ -844,6 +844,8 @@ public final class ReasonCloser {
         final int[] termName = new int[MOST_TERMS];
         final int[] deep = new int[MOST_TERMS];
         final int[] parts = new int[MOST_TERMS * MOST_PARTS];
+        /** Of what each TERM is made, while GROUPS climb. */
+        final int[] made = new int[MOST_TERMS];
         /** By the lower TERM, then by the higher one: the order in which pairs are looked for. */
         final int[] low = new int[MOST_PAIRS];
         final int[] high = new int[MOST_PAIRS];
@@ -1006,11 +1008,23 @@ public final class ReasonCloser {
 
         /** Unites in the second GROUPS each pair of which the PARTS are one in the first. */
         void climb(Groups below, Groups above) {
+            for (int t = 0; t < count; t++) {
+                made[t] = madeOf(t, below);
+            }
             for (int pair = 0; pair < pairs; pair++) {
-                if (!above.one(low[pair], high[pair]) && alike(pair, below)) {
+                if (made[low[pair]] == made[high[pair]]) {
                     above.unite(low[pair], high[pair]);
                 }
             }
+        }
+
+        /** The LEADS of the PARTS as one number, so that a pair is looked at by one comparison. */
+        private int madeOf(int t, Groups groups) {
+            int leads = 0;
+            for (int k = 0; k < takes[functionOf[t]]; k++) {
+                leads = leads * MOST_TERMS + groups.lead[parts[t * MOST_PARTS + k]];
+            }
+            return leads;
         }
     }
 
@@ -1389,7 +1403,7 @@ public final class ReasonCloser {
             }
         }
 
-        /** Row open is closed BY set, of which the lowest open bits are still to be chosen. */
+        /** Row open is closed BY set; the lowest open picks are still to be chosen, and all of them would do. */
         private void visit(Facts facts, int open, int set) {
             if (rows[open].one(first, second)) {
                 markFrom(set, 1 << open);
@@ -1398,14 +1412,24 @@ public final class ReasonCloser {
             if (open == 0) {
                 return;
             }
-            int same = picks[open - 1];
-            int a = facts.sameFirst[same];
-            int b = facts.sameSecond[same];
-            rows[open - 1].copyFrom(rows[open]);
-            visit(facts, open - 1, set);
-            rows[open - 1].copyFrom(rows[open]);
-            facts.supposeSame(a, b, rows[open - 1]);
-            visit(facts, open - 1, set | 1 << (open - 1));
+            int chosen = open - 1;
+            if (canDoWithout(facts, chosen)) {
+                rows[chosen].copyFrom(rows[open]);
+                visit(facts, chosen, set);
+            }
+            rows[chosen].copyFrom(rows[open]);
+            facts.supposeSame(facts.sameFirst[picks[chosen]], facts.sameSecond[picks[chosen]], rows[chosen]);
+            visit(facts, chosen, set | 1 << chosen);
+        }
+
+        /** Would all picks below one do, without that one? */
+        private boolean canDoWithout(Facts facts, int left) {
+            rows[left].copyFrom(rows[left + 1]);
+            for (int k = 0; k < left; k++) {
+                rows[left].unite(facts.sameFirst[picks[k]], facts.sameSecond[picks[k]]);
+            }
+            facts.terms.close(rows[left]);
+            return rows[left].one(first, second);
         }
 
         private void markFrom(int set, int howMany) {

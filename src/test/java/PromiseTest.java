@@ -25,6 +25,7 @@ public final class PromiseTest {
         why();
         proofs();
         levelsAndCosts();
+        costsFollow();
         capsOfCosts();
         cores();
         onPaper();
@@ -122,6 +123,22 @@ public final class PromiseTest {
         // only the first n bytes count
         Due.feed(x, "fun a 0;term p=a;term q=a");
         due.told(x, "3: sixteen bytes", x.text(16), 1);
+        // the TEXT ends in the middle of what stands together on THE TAPE
+        Due.feed(x, "fun a 12;;");
+        due.told(x, "3: one digit of two", x.text(7), 0);
+        Due.feed(x, "fun a 0;term p=ab");
+        due.told(x, "3: one letter of two", x.text(16), 1);
+        Due.feed(x, "fun abcdef0;term p=abcdefg");
+        due.told(x, "3: six letters of seven", x.text(25), 1);
+        // what was there two texts ago is gone as well
+        x.join(0, 0);
+        x.part(0, 0);
+        due.told(x, "3: a text", Due.read(x, "fun a 0;term p=a"), 1);
+        x.make(0, 0, 0, 0);
+        due.told(x, "3: another text", Due.read(x, "fun a 0;fun b 0;term p=a;term q=b"), 2);
+        due.is("3: no acts of two texts ago", x.about(5), 0);
+        due.yes("3: none to undo", !x.undo());
+        due.is("3: no SAMES, DIFFS, JOINS of two texts ago", x.about(2) + x.about(3) + x.about(6), 0);
         // the largest TEXT there can be
         StringBuilder all = new StringBuilder("fun a 0;term t=a");
         while (all.length() < 500) {
@@ -527,6 +544,16 @@ public final class PromiseTest {
         due.told(x, "18: of s and u", x.pruned(3, 5), 11);
         due.told(x, "19: of s and u", x.fewest(3, 5), 12);
         due.told(x, "22: of s and u", x.needed(3, 5), 8);
+        // the same SAME for two PARTS
+        x = Due.object(LEAVES + ";term t=h(p,p);term u=h(q,q);term v=h(r,t);term w=h(r,u);same p q");
+        due.told(x, "17: the same for both PARTS", x.reasons(4, 5), 1);
+        due.told(x, "17: for a PART that is the same", x.reasons(6, 7), 1);
+        due.told(x, "26: for both PARTS", x.cost(4, 5), 2);
+        // the same SAME on two pieces of a way: t-u by p-q, u-r-v, v-w by p-q
+        x = Due.object(LEAVES + ";fun k 2;term t=g(p);term u=g(q);term v=k(s,p);term w=k(s,q);same p q;same u v");
+        due.told(x, "17: the same twice on a way", x.reasons(4, 7), 3);
+        due.told(x, "17: the other way", x.reasons(7, 4), 3);
+        due.told(x, "26: twice on a way", x.cost(4, 7), 3);
         // likewise: a JOIN by PARTS deep below
         x = Due.object(LEAVES + ";term t=g(p);term u=g(q);term v=g(t);term w=g(u);same r s;same p q");
         due.told(x, "17: two levels below", x.reasons(6, 7), 2);
@@ -631,6 +658,28 @@ public final class PromiseTest {
         due.told(x, "25: its own SAME", x.level(4, 5), 0);
         x = Due.object(LEAVES + ";term t=h(p,q);term u=h(r,s);same p r;same q s");
         due.told(x, "26: PARTS together", x.cost(4, 5), 2);
+    }
+
+    /** COSTS, LEVELS, ways follow each act, each undo() and each text. */
+    private static void costsFollow() {
+        ReasonCloser x = Due.object(LEAVES + ";same p q;same q r");
+        due.told(x, "26: ahead", x.cost(0, 2), 2);
+        x.join(0, 2);
+        due.told(x, "26: behind join()", x.cost(0, 2), 1);
+        due.told(x, "27: behind join()", x.way(0, 2, 1), 2);
+        x.undo();
+        due.told(x, "26: behind undo()", x.cost(0, 2), 2);
+        due.told(x, "27: behind undo()", x.way(0, 2, 1), 1);
+        x.make(4, 0, 0, 0);
+        x.make(4, 2, 0, 0);
+        due.told(x, "26: of made TERMS", x.cost(4, 5), 2);
+        x.part(0, 3);
+        due.told(x, "26: behind part()", x.cost(4, 5), 2);
+        due.told(x, "3: another text", Due.read(x, LEAVES + ";same r p;same s q;same s r"), 4);
+        due.told(x, "26: behind another text", x.cost(0, 1), 3);
+        due.told(x, "27: behind another text", x.way(0, 1, 1), 2);
+        Due.read(x, "fun");
+        due.told(x, "26: behind a FAULT", x.cost(0, 1), 3);
     }
 
     /** Each level costs twice, then three times the one below: the sums stop at 1,000,000,000. */
@@ -882,6 +931,13 @@ public final class PromiseTest {
         x.make(0, 0, 0, 0);
         name(x, "p", 1, 0);
         name(x, " ", 1, -99);
+        name(x, "a", 1, -99);
+        x = Due.object("fun o 0;term a=o;term b=o");
+        name(x, "a", 1, 0);
+        name(x, "a;", 2, -99);
+        name(x, "a a", 3, -99);
+        name(x, "b a", 3, -99);
+        name(x, "b", 1, 1);
         x.about(99);
         Due.feed(x, "p");
         named(x, 1);
@@ -893,7 +949,7 @@ public final class PromiseTest {
         named(x, 1);
         due.is("37: where() stays", x.where(), 0);
         Due.read(x, "fun q 0;term r=q");
-        name(x, "p", 1, -99);
+        name(x, "b", 1, -99);
         name(x, "r", 1, 0);
     }
 
