@@ -1478,7 +1478,7 @@ public final class ReasonCloser {
 
     /** COSTS of all that are one, and ways of the least COST. */
     private static final class Costs {
-        private static final int NO_WAY = Integer.MAX_VALUE;
+        private static final int NO_WAY = TOP_SUM + 1;
 
         /** Of two TERMS the COST as far as it is known; TOP_SUM where none is known, as of two that aren't one. */
         final int[] sums = new int[MOST_TERMS * MOST_TERMS];

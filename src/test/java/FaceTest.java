@@ -108,7 +108,7 @@ public final class FaceTest {
         }
         Matcher library = Pattern.compile("\\b(Math|Integer|Long|System|Arrays|String|StringBuilder)\\b\\.?(\\w*)").matcher(code);
         while (library.find()) {
-            due.yes("library: " + library.group(), List.of("Math.min", "Math.max", "Integer.bitCount", "Integer.MAX_VALUE",
+            due.yes("library: " + library.group(), List.of("Math.min", "Math.max", "Integer.bitCount",
                     "System.arraycopy").contains(library.group()));
         }
         Matcher thrown = Pattern.compile("throw\\b[^;]*;").matcher(code);
