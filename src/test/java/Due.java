@@ -1,12 +1,20 @@
 /** What the tests share: telling answers that aren't the ones that are due, and texts fed by twenty bytes. */
 final class Due {
+    private int asked;
     private int wrong;
+    private String begun = "";
+
+    /** Of what the following answers are told; empty if of nothing beyond what they say themselves. */
+    void begin(String test) {
+        begun = test.isEmpty() ? "" : test + ": ";
+    }
 
     void is(String what, long got, long want) {
+        asked++;
         if (got != want) {
             wrong++;
             if (wrong <= 50) {
-                System.out.println(what + " answered " + got + ", due is " + want);
+                System.out.println(begun + what + " answered " + got + ", due is " + want);
             }
         }
     }
@@ -37,7 +45,7 @@ final class Due {
             System.out.println(wrong + " wrong");
             System.exit(1);
         }
-        System.out.println("all answers are as due");
+        System.out.println("all " + asked + " answers are as due");
     }
 
     /** Feeds a text, with blanks behind it up to a multiple of twenty bytes. */
