@@ -43,8 +43,8 @@ final class ActBoundaries {
         book.test("constants", "`NONE = -1`: There is none; refused.", () -> told("NONE", ReasonCloser.NONE, -1));
         book.test("head", "An object is used for at most 512 calls after it has been made", () -> {
             ReasonCloser x = Due.object(LEAVES + ";same p q");
-            // seven calls of these made it
-            for (int call = 8; call < 511; call++) {
+            // five times feed(), then text()
+            for (int call = 7; call < 511; call++) {
                 told("call " + call, call % 3 == 0 ? x.join(0, 1) : x.equal(0, 1), call % 3 != 0 ? 1 : call < 42 ? 3 : -1);
             }
             told("call 511", x.reasons(0, 1), 1);

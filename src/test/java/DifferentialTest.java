@@ -27,6 +27,9 @@ public final class DifferentialTest {
         for (int seed = 0; seed < 10 * times && due.wrong() < 50; seed++) {
             new DifferentialTest("large", seed, 12).runOfCalls(250);
         }
+        for (int seed = 0; seed < 30 * times && due.wrong() < 50; seed++) {
+            new DifferentialTest("towers", seed, 4).runOfTower();
+        }
         for (int seed = 0; seed < 250 * times && due.wrong() < 50; seed++) {
             new DifferentialTest("texts", seed, 4).runOfTexts();
         }
@@ -47,6 +50,24 @@ public final class DifferentialTest {
             for (int k = random.nextInt(12); k >= 0; k--) {
                 ask();
                 tell();
+            }
+        }
+    }
+
+    /** A tower alone, then asked of many pairs what costs and ways there are. */
+    private void runOfTower() {
+        read(textOfTower());
+        while (calls < 480 && due.wrong() < 50) {
+            int t = some(terms());
+            int u = some(terms());
+            is("cost(" + t + ", " + u + ")", x.cost(t, u), naive.cost(t, u));
+            is("level(" + t + ", " + u + ")", x.level(t, u), naive.level(t, u));
+            for (int i = 0; i < 4; i++) {
+                is("way(" + t + ", " + u + ", " + i + ")", x.way(t, u, i), naive.way(t, u, i));
+            }
+            calls += 6;
+            if (random.nextInt(12) == 0) {
+                act();
             }
         }
     }
@@ -169,8 +190,32 @@ public final class DifferentialTest {
         return text.toString();
     }
 
+    /** TERMS each made of those just ahead, mostly three times of the same one, so that COSTS come near the top and above it. */
+    private String textOfTower() {
+        StringBuilder text = new StringBuilder("fun a 0;fun b 0;fun g 3;fun h 3;term i=a;term j=b");
+        int count = 2;
+        while (count < 24 && text.length() < 440) {
+            int steep = random.nextInt(count > 18 ? 2 : 12);
+            int below = count - 1 - (count > 2 && steep == 0 ? random.nextInt(2) : 0);
+            text.append(";term ").append(name(count + 8)).append(random.nextInt(count > 18 ? 3 : 9) == 0 ? "=h(" : "=g(");
+            for (int part = 0; part < 3; part++) {
+                int at = random.nextInt(20) == 0 ? random.nextInt(count) : below;
+                text.append(part == 0 ? "" : ",").append(name(at + 8));
+            }
+            text.append(')');
+            count++;
+        }
+        for (int k = 1 + random.nextInt(3); k > 0; k--) {
+            int from = random.nextInt(4) == 0 ? random.nextInt(count) : random.nextInt(2);
+            text.append(";same ").append(name(from + 8)).append(' ')
+                    .append(name((random.nextInt(3) == 0 ? random.nextInt(count) : from + 1) + 8));
+        }
+        return text.toString();
+    }
+
     private String anyText() {
-        return random.nextBoolean() ? textOfFacts() : textOfLayers();
+        int kind = random.nextInt(5);
+        return kind < 2 ? textOfFacts() : kind < 4 ? textOfLayers() : textOfTower();
     }
 
     /** Often one of the latest, so that TERMS grow deep. */

@@ -1,7 +1,9 @@
 import java.util.ArrayList;
 import java.util.Arrays;
+import java.util.HashMap;
 import java.util.HashSet;
 import java.util.List;
+import java.util.Map;
 import java.util.NoSuchElementException;
 import java.util.Set;
 
@@ -21,6 +23,8 @@ final class NaiveCloser {
         final List<int[]> joins = new ArrayList<>();
         final int[] parent = new int[40];
         final int[] parentJoin = new int[40];
+        /** Forgotten at each JOIN. */
+        private final Map<Integer, Set<Integer>> reached = new HashMap<>();
 
         World(List<int[]> events) {
             for (int[] event : events) {
@@ -57,6 +61,10 @@ final class NaiveCloser {
         }
 
         boolean one(int i, int j) {
+            return reached.computeIfAbsent(i, this::reachedFrom).contains(j);
+        }
+
+        private Set<Integer> reachedFrom(int i) {
             Set<Integer> reached = new HashSet<>(List.of(i));
             boolean more = true;
             while (more) {
@@ -69,7 +77,7 @@ final class NaiveCloser {
                     }
                 }
             }
-            return reached.contains(j);
+            return reached;
         }
 
         int arity(int t) {
@@ -101,6 +109,7 @@ final class NaiveCloser {
             parent[b] = a;
             parentJoin[b] = joins.size();
             joins.add(new int[] {a, b, same});
+            reached.clear();
         }
 
         List<Integer> wayUp(int t) {
@@ -112,6 +121,11 @@ final class NaiveCloser {
         }
 
         int reasons(int t, int u) {
+            return reasons(t, u, new HashMap<>());
+        }
+
+        /** Of each JOIN once in an answer, as towers ask for the same ones again and again. */
+        private int reasons(int t, int u, Map<Integer, Integer> known) {
             List<Integer> first = wayUp(t);
             List<Integer> second = wayUp(u);
             int bits = 0;
@@ -119,26 +133,30 @@ final class NaiveCloser {
                 if (second.contains(at)) {
                     break;
                 }
-                bits |= reasonsOfJoin(parentJoin[at]);
+                bits |= reasonsOfJoin(parentJoin[at], known);
             }
             for (int at : second) {
                 if (first.contains(at)) {
                     break;
                 }
-                bits |= reasonsOfJoin(parentJoin[at]);
+                bits |= reasonsOfJoin(parentJoin[at], known);
             }
             return bits;
         }
 
-        int reasonsOfJoin(int k) {
+        private int reasonsOfJoin(int k, Map<Integer, Integer> known) {
+            if (known.containsKey(k)) {
+                return known.get(k);
+            }
             int[] join = joins.get(k);
             if (join[2] >= 0) {
                 return 1 << join[2];
             }
             int bits = 0;
             for (int p = 0; p < arity(join[0]); p++) {
-                bits |= reasons(part(join[0], p), part(join[1], p));
+                bits |= reasons(part(join[0], p), part(join[1], p), known);
             }
+            known.put(k, bits);
             return bits;
         }
 
@@ -179,6 +197,8 @@ final class NaiveCloser {
     private int where = -1;
     private World world = new World(events);
     private boolean[][][] byTable = new boolean[1][][];
+    /** Forgotten at each change. */
+    private long[][] costTable;
 
     private int no(int number) {
         trouble = number;
@@ -194,6 +214,7 @@ final class NaiveCloser {
 
     private void changed() {
         world = new World(events);
+        costTable = null;
         byTable = new boolean[1 << world.sames.size()][][];
     }
 
@@ -334,12 +355,15 @@ final class NaiveCloser {
         return ok(what == 0 ? takes.get(f) : what == 1 ? count : leads.size());
     }
 
+    /** From the first TERM on, as PARTS are told ahead. */
     private int depth(int t) {
-        int deep = 0;
-        for (int k = 0; k < world.arity(t); k++) {
-            deep = Math.max(deep, depth(world.part(t, k)) + 1);
+        int[] deep = new int[t + 1];
+        for (int s = 0; s <= t; s++) {
+            for (int k = 0; k < world.arity(s); k++) {
+                deep[s] = Math.max(deep[s], deep[world.part(s, k)] + 1);
+            }
         }
-        return deep;
+        return deep[t];
     }
 
     int term(int t, int what) {
@@ -613,8 +637,15 @@ final class NaiveCloser {
         return least;
     }
 
-    /** From above: no COST is known at first, and each round uses those of the round ahead. */
     private long[][] costs() {
+        if (costTable == null) {
+            costTable = costsAnew();
+        }
+        return costTable;
+    }
+
+    /** From above: no COST is known at first, and each round uses those of the round ahead. */
+    private long[][] costsAnew() {
         int n = world.terms.size();
         long[][] cost = new long[n][n];
         for (int i = 0; i < n; i++) {
@@ -664,25 +695,25 @@ final class NaiveCloser {
         }
         for (int steps = 0; ; steps++) {
             List<Integer> way = new ArrayList<>(List.of(t));
-            if (walk(step, way, u, 0, cost[t][u], steps, new HashSet<>())) {
+            if (walk(step, cost, way, u, 0, cost[t][u], steps, new HashSet<>())) {
                 return ok(i < way.size() ? way.get(i) : -2);
             }
         }
     }
 
-    /** The first way, by its TERMS, with so many steps more and that sum in all. */
-    private boolean walk(long[][] step, List<Integer> way, int u, long sum, long due, int steps, Set<String> vain) {
+    /** The first way, by its TERMS, with so many steps more and that sum in all; if all are at the top, any sum is that. */
+    private boolean walk(long[][] step, long[][] cost, List<Integer> way, int u, long sum, long due, int steps, Set<String> vain) {
         int at = way.get(way.size() - 1);
         if (steps == 0) {
             return at == u && Math.min(sum, CAP) == due;
         }
-        if (due < CAP && sum > due || !vain.add(at + " " + steps + " " + Math.min(sum, CAP))) {
+        if (due < CAP && sum + cost[at][u] > due || !vain.add(at + " " + steps + " " + (due < CAP ? sum : CAP))) {
             return false;
         }
         for (int v = 0; v < step.length; v++) {
             if (step[at][v] >= 0) {
                 way.add(v);
-                if (walk(step, way, u, sum + step[at][v], due, steps - 1, vain)) {
+                if (walk(step, cost, way, u, sum + step[at][v], due, steps - 1, vain)) {
                     return true;
                 }
                 way.remove(way.size() - 1);
