@@ -23,6 +23,7 @@ final class WhyBoundaries {
         costs();
         costsOfLaterPairs();
         sumsAtTheTop();
+        sumsJustAtTheTop();
         sumsFarAboveTheTop();
         ways();
         core();
@@ -336,6 +337,50 @@ final class WhyBoundaries {
             makeTwo(x, 2, new int[] {10, 14, 10}, new int[] {12, 16, 18});
             makeTwo(x, 3, new int[] {20, 15, 20}, new int[] {21, 19, 21});
             told("PARTS together of 1,000,053,864", x.cost(22, 23), TOP_SUM);
+        });
+    }
+
+    /** 21 TERMS as in steep(), but that some have another third PART than the one ahead: TERM, third PART, TERM, third PART .. */
+    private static ReasonCloser uneven(int... others) {
+        ReasonCloser x = Due.object("fun a 0;fun g 3;fun h 3;fun c 0;term p=a");
+        for (int t = 1; t < 21; t++) {
+            int third = t - 1;
+            for (int k = 0; k < others.length; k += 2) {
+                third = others[k] == t ? others[k + 1] : third;
+            }
+            x.make(1, t - 1, t - 1, third);
+        }
+        x.join(0, 1);
+        return x;
+    }
+
+    /** Sums that miss the top by one, reach it, and are one more: of PARTS together, and of a way with one SAME more. */
+    private void sumsJustAtTheTop() {
+        book.test("II", "each such sum is 1,000,000,000, if it would be more", () -> {
+            ReasonCloser x = uneven(6, 4, 7, 4);
+            told("three PARTS", x.cost(13, 20), 968108355);
+            told("three PARTS", x.cost(6, 9), 5184);
+            told("three PARTS", x.cost(15, 17), 31886460);
+            makeTwo(x, 2, new int[] {13, 6, 15}, new int[] {20, 9, 17});
+            told("PARTS together of 999,999,999", x.cost(21, 22), TOP_SUM - 1);
+            x.make(3, 0, 0, 0);
+            x.join(22, 23);
+            told("PARTS together of 999,999,999 still", x.cost(22, 21), TOP_SUM - 1);
+            told("a way's sum of 1,000,000,000", x.cost(21, 23), TOP_SUM);
+            way(x, 23, 22, 21);
+            x = uneven(2, 0, 3, 1, 8, 0, 15, 3);
+            makeTwo(x, 2, new int[] {18, 8, 11}, new int[] {20, 17, 20});
+            told("PARTS together of 1,000,000,000", x.cost(21, 22), TOP_SUM);
+            x.make(3, 0, 0, 0);
+            x.join(21, 23);
+            told("a way's sum of 1,000,000,001", x.cost(23, 22), TOP_SUM);
+            way(x, 23, 21, 22);
+            x = uneven(2, 0, 7, 2, 8, 4, 14, 11);
+            told("three PARTS", x.cost(8, 20), 438486860);
+            told("three PARTS", x.cost(12, 19), 146067705);
+            told("three PARTS", x.cost(18, 20), 415445436);
+            makeTwo(x, 2, new int[] {8, 12, 18}, new int[] {20, 19, 20});
+            told("PARTS together of 1,000,000,001", x.cost(22, 21), TOP_SUM);
         });
     }
 
