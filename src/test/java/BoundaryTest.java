@@ -13,6 +13,7 @@ public final class BoundaryTest {
         new WhyBoundaries(book, due).all();
         new ActBoundaries(book, due).all();
         new Refusals(book, due).all();
+        new Crosswise(book, due).all();
         book.nothingLeftOut();
         if (args.length > 0) {
             System.out.println(book.marked());

@@ -16,6 +16,7 @@ import java.util.regex.Pattern;
 /** The document's face, the rules of LANGUAGE.md as far as they can be seen from outside, and the room that a run takes. */
 public final class FaceTest {
     private static final Due due = new Due();
+    private static final Path DOCUMENT = Path.of("../shared/DOC.md");
 
     private static final String FACE = "feed(int,int,int,int,int)int text(int)int fault()int where()int about(int)int "
             + "function(int,int)int term(int,int)int partOf(int,int)int sameOf(int,int)int diffOf(int,int)int "
@@ -28,7 +29,11 @@ public final class FaceTest {
     public static void main(String[] args) throws IOException {
         face();
         classes();
-        source(Files.readString(Path.of("src/main/java/ReasonCloser.java")));
+        String file = Files.readString(Path.of("src/main/java/ReasonCloser.java"));
+        source(file);
+        if (Files.exists(DOCUMENT)) {
+            document(Files.readString(DOCUMENT), file);
+        }
         room();
         due.end();
     }
@@ -133,6 +138,30 @@ public final class FaceTest {
             }
             no("a line of more than 125 signs: " + (at + 1), lines[at].length() > 125);
         }
+    }
+
+    /** The file's public lines are those of the document's code block, in its order, under the headings that it names. */
+    private static void document(String told, String file) {
+        String block = told.substring(told.indexOf("```java") + 7, told.indexOf("## Terms"));
+        List<String> face = block.lines().map(String::trim).filter(line -> line.startsWith("public"))
+                .map(line -> line.replaceAll("[;{]$", "").trim()).toList();
+        List<String> written = file.lines().filter(line -> line.matches("( {4})?public .*"))
+                .map(line -> line.replaceAll("[;{]$", "").trim()).toList();
+        due.is("lines of the document's code block", face.size(), 41);
+        due.yes("the file's public lines " + written, written.equals(face));
+        Matcher heading = Pattern.compile("Ahead of the calls (.*) the interface says: (---- .*)\\.").matcher(told);
+        int headings = 0;
+        while (heading.find()) {
+            headings++;
+            String under = file.split(Pattern.quote("// " + heading.group(2) + "\n"), 2)[1].split("// ----|\n    private ", 2)[0];
+            StringBuilder calls = new StringBuilder();
+            Matcher call = Pattern.compile("(?m)^    public \\w+ (\\w+)\\(").matcher(under);
+            while (call.find()) {
+                calls.append(calls.length() == 0 ? "" : ", ").append('`').append(call.group(1)).append('`');
+            }
+            due.yes("under " + heading.group(2) + ": " + calls, calls.toString().equals(heading.group(1)));
+        }
+        due.is("headings", headings, 6);
     }
 
     /** What 512 of the dearest calls make, counted by the bytes that the thread takes. */

@@ -1,3 +1,6 @@
+import java.util.ArrayList;
+import java.util.List;
+
 /** Boundary cases of THE TAPE and THE TEXT: what part I of the document says, and promises 1 to 5, 37, 38. */
 final class TextBoundaries {
     private static final int LOW = Integer.MIN_VALUE;
@@ -10,6 +13,15 @@ final class TextBoundaries {
     /** All places where a NAME may stand: what is ahead of it and what makes a TEXT of it. */
     private static final String[][] NAME_PLACES = {{"fun ", " 0"}, {"term ", "=z"}, {"term w=", ""}, {"term w=g(", ")"},
         {"term w=h(p,", ")"}, {"same ", " q"}, {"same p ", ""}, {"diff ", " q"}, {"diff p ", ""}};
+
+    /** One of each of the calls that may be refused, which isn't. */
+    static final Beside.Ask[] CALLS_THAT_MAY_BE_REFUSED = {
+        x -> x.about(0), x -> x.function(0, 0), x -> x.term(0, 0), x -> x.partOf(0, 0), x -> x.sameOf(0, 0),
+        x -> x.diffOf(0, 0), x -> x.joinOf(0, 0), x -> x.height(0), x -> x.hung(0, 0), x -> x.equal(0, 1),
+        x -> x.apart(0, 1), x -> x.reasons(0, 0), x -> x.pruned(0, 0), x -> x.fewest(0, 0), x -> x.proves(0, 0, 0),
+        x -> x.since(0, 0), x -> x.needed(0, 0), x -> x.many(0, 0), x -> x.level(0, 0), x -> x.cost(0, 0),
+        x -> x.way(0, 0, 0), x -> x.would(0, 0, 0), x -> x.next(0, 0, 0, 0), x -> x.without(0, 0), x -> x.join(0, 0),
+        x -> x.part(0, 0), x -> x.make(0, 0, 0, 0), x -> Due.read(x, "fun a 0")};
 
     private final Book book;
     private final Due due;
@@ -150,6 +162,10 @@ final class TextBoundaries {
             due.is("all LINES that there may be: same", x.about(2), 12);
             due.is("all LINES that there may be: diff", x.about(3), 8);
         });
+        for (String[] form : new String[][] {{"fun NAME WHOLE", "fun w 2"}, {"term NAME = NAME [( NAME {, NAME} )]", "term w = k ( p , q , p )"},
+            {"same NAME NAME (a SAME: two TERMS are one", "same p q"}, {"diff NAME NAME (a DIFF: two TERMS are to be apart", "diff p q"}}) {
+            book.test("I", form[0], () -> tornLines(form[1].split(" ")));
+        }
         book.test("I", "it takes 0 .. 3", () -> {
             for (int takes = 0; takes <= 3; takes++) {
                 due.is("takes", good("fun a " + takes).function(0, 0), takes);
@@ -206,6 +222,25 @@ final class TextBoundaries {
             due.is("DIFF 0", x.diffOf(0, 1), 0);
             due.is("DIFF 1", x.diffOf(1, 1), 1);
         });
+    }
+
+    /** A LINE as it is told, then with each of its TOKENS left out, and with each of them twice. */
+    private void tornLines(String[] tokens) {
+        good(BASE + String.join(" ", tokens));
+        good(BASE + String.join("   ", tokens) + " ;fun x 0");
+        for (int k = 0; k < tokens.length; k++) {
+            List<String> less = new ArrayList<>(List.of(tokens));
+            less.remove(k);
+            String gone = String.join(" ", less);
+            // of two NAMES side by side the other one stands in the place of the one that is left out: the end comes too soon
+            boolean twoNames = tokens.length == 3 && tokens[0].matches("same|diff") && k > 0;
+            int at = twoNames ? gone.length() : String.join(" ", less.subList(0, k)).length() + (k > 0 && k < less.size() ? 1 : 0);
+            bad(BASE + gone, 1, BASE.length() + at);
+            List<String> more = new ArrayList<>(List.of(tokens));
+            more.add(k, tokens[k]);
+            int first = twoNames ? tokens.length : k + 1;
+            bad(BASE + String.join(" ", more), 1, BASE.length() + String.join(" ", more.subList(0, first)).length() + 1);
+        }
     }
 
     /** How many there may be of each kind: that many, and one more at that WORD. */
@@ -618,12 +653,7 @@ final class TextBoundaries {
 
     /** Each call behind a FAULT at 6: those that may be refused take where() and trouble() away, others leave them. */
     private void callsBehindAFault() {
-        Beside.Ask[] mayBe = {x -> x.about(0), x -> x.function(0, 0), x -> x.term(0, 0), x -> x.partOf(0, 0), x -> x.sameOf(0, 0),
-            x -> x.diffOf(0, 0), x -> x.joinOf(0, 0), x -> x.height(0), x -> x.hung(0, 0), x -> x.equal(0, 1), x -> x.apart(0, 1), x -> x.reasons(0, 0),
-            x -> x.pruned(0, 0), x -> x.fewest(0, 0), x -> x.proves(0, 0, 0), x -> x.since(0, 0), x -> x.needed(0, 0),
-            x -> x.many(0, 0), x -> x.level(0, 0), x -> x.cost(0, 0), x -> x.way(0, 0, 0), x -> x.would(0, 0, 0),
-            x -> x.next(0, 0, 0, 0), x -> x.without(0, 0), x -> x.join(0, 0), x -> x.part(0, 0), x -> x.make(0, 0, 0, 0),
-            x -> Due.read(x, "fun a 0")};
+        Beside.Ask[] mayBe = CALLS_THAT_MAY_BE_REFUSED;
         due.is("calls that may be refused", mayBe.length, 28);
         for (int k = 0; k < mayBe.length; k++) {
             ReasonCloser x = faulty();
