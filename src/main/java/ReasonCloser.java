@@ -262,8 +262,7 @@ public final class ReasonCloser {
         if (why != 0) {
             return refuse(why);
         }
-        proofs.weigh(facts, t, u);
-        return answer(proofs.fewestSames());
+        return answer(proofs.fewestSames(facts, t, u, MOST_SAMES));
     }
 
     public int proves(int set, int t, int u) {
@@ -308,8 +307,7 @@ public final class ReasonCloser {
         if (why != 0) {
             return refuse(why);
         }
-        proofs.weigh(facts, t, u);
-        return answer(proofs.leastSets());
+        return answer(proofs.leastSets(facts, t, u));
     }
 
     public int base() {
@@ -362,9 +360,9 @@ public final class ReasonCloser {
         int best = BEYOND;
         for (int k = 0; k < facts.diffs; k++) {
             if (facts.clashes(k, facts.groups)) {
-                proofs.weigh(facts, facts.diffFirst[k], facts.diffSecond[k]);
-                int set = proofs.fewestSames();
-                if (best < 0 || Proofs.ahead(set, best)) {
+                int most = best < 0 ? MOST_SAMES : Integer.bitCount(best);
+                int set = proofs.fewestSames(facts, facts.diffFirst[k], facts.diffSecond[k], most);
+                if (set >= 0 && (best < 0 || Integer.bitCount(set) < most || set < best)) {
                     best = set;
                 }
             }
@@ -1347,16 +1345,20 @@ public final class ReasonCloser {
         }
     }
 
-    /** All sets of SAMES BY which two TERMS are one, of those SAMES that can bear on the two. */
+    /** The sets of SAMES BY which two TERMS are one, of those SAMES that can bear on the two. */
     private static final class Proofs {
         /** Row k holds what is one BY a set of which the SAMES below the k-th picked one are still open. */
         final Groups[] rows = new Groups[MOST_SAMES + 1];
         final int[] picks = new int[MOST_SAMES];
-        /** Bits, one for each set of picked SAMES: are the two one BY it? */
+        /** Bits, one for each set of picked SAMES: are the two one BY it? Of sets with an idle SAME it may be untold. */
         final long[] holding = new long[1 << (MOST_SAMES - 6)];
         int picked;
         int first;
         int second;
+        /** Is just the set of the fewest SAMES looked for? Then it has fewer than below. */
+        boolean fewestAlone;
+        int below;
+        int best;
 
         Proofs() {
             for (int k = 0; k <= MOST_SAMES; k++) {
@@ -1364,22 +1366,46 @@ public final class ReasonCloser {
             }
         }
 
-        /** Is a set ahead of another: with fewer SAMES, of like many the lesser number? */
-        static boolean ahead(int set, int other) {
-            int many = Integer.bitCount(set);
-            int others = Integer.bitCount(other);
-            return many < others || many == others && set < other;
+        /** The set of the fewest SAMES, of like many the least number; NONE if it has more than most. */
+        int fewestSames(Facts facts, int t, int u, int most) {
+            begin(facts, t, u);
+            fewestAlone = true;
+            below = most + 1;
+            best = NONE;
+            visit(facts, picked, 0);
+            if (best < 0) {
+                return NONE;
+            }
+            int sames = 0;
+            for (int k = 0; k < picked; k++) {
+                sames |= (best >>> k & 1) << picks[k];
+            }
+            return sames;
         }
 
-        void weigh(Facts facts, int t, int u) {
-            first = t;
-            second = u;
-            pickBearing(facts);
+        /** How many sets there are of which no SAME can be left out. */
+        int leastSets(Facts facts, int t, int u) {
+            begin(facts, t, u);
+            fewestAlone = false;
+            below = MOST_SAMES + 1;
             for (int n = 0; n < holding.length; n++) {
                 holding[n] = 0;
             }
-            facts.closeBy(0, rows[picked]);
             visit(facts, picked, 0);
+            int found = 0;
+            for (int set = 0; set < 1 << picked; set++) {
+                if (holds(set) && !holdsWithLess(set)) {
+                    found++;
+                }
+            }
+            return found;
+        }
+
+        private void begin(Facts facts, int t, int u) {
+            first = t;
+            second = u;
+            pickBearing(facts);
+            facts.closeBy(0, rows[picked]);
         }
 
         /** SAMES of other GROUPS than the two's, those of what these are made of, and so on, can't bear on them. */
@@ -1406,20 +1432,39 @@ public final class ReasonCloser {
         /** Row open is closed BY set; the lowest open picks are still to be chosen, and all of them would do. */
         private void visit(Facts facts, int open, int set) {
             if (rows[open].one(first, second)) {
-                markFrom(set, 1 << open);
+                note(set, 1 << open);
                 return;
             }
-            if (open == 0) {
+            if (open == 0 || Integer.bitCount(set) + 1 >= below) {
                 return;
             }
             int chosen = open - 1;
-            if (canDoWithout(facts, chosen)) {
+            int a = facts.sameFirst[picks[chosen]];
+            int b = facts.sameSecond[picks[chosen]];
+            // a SAME is idle beside others BY which its two are one already: no set that is told has it with these
+            boolean idle = rows[open].one(a, b);
+            if (idle || canDoWithout(facts, chosen)) {
                 rows[chosen].copyFrom(rows[open]);
                 visit(facts, chosen, set);
             }
-            rows[chosen].copyFrom(rows[open]);
-            facts.supposeSame(facts.sameFirst[picks[chosen]], facts.sameSecond[picks[chosen]], rows[chosen]);
-            visit(facts, chosen, set | 1 << chosen);
+            if (!idle && Integer.bitCount(set) + 1 < below) {
+                rows[chosen].copyFrom(rows[open]);
+                facts.supposeSame(a, b, rows[chosen]);
+                visit(facts, chosen, set | 1 << chosen);
+            }
+        }
+
+        /** The two are one BY a set, whatever comes to it of the picks still open: BY so many sets, from its number on. */
+        private void note(int set, int howMany) {
+            if (fewestAlone) {
+                // sets come in the order of their numbers, so that of like many the least came first
+                best = set;
+                below = Integer.bitCount(set);
+                return;
+            }
+            for (int n = set; n < set + howMany; n++) {
+                holding[n >>> 6] |= 1L << (n & 63);
+            }
         }
 
         /** Would all picks below one do, without that one? */
@@ -1432,38 +1477,8 @@ public final class ReasonCloser {
             return rows[left].one(first, second);
         }
 
-        private void markFrom(int set, int howMany) {
-            for (int n = set; n < set + howMany; n++) {
-                holding[n >>> 6] |= 1L << (n & 63);
-            }
-        }
-
         private boolean holds(int set) {
             return (holding[set >>> 6] >>> (set & 63) & 1) != 0;
-        }
-
-        int fewestSames() {
-            int best = NONE;
-            for (int set = 0; set < 1 << picked; set++) {
-                if (holds(set) && (best < 0 || ahead(set, best))) {
-                    best = set;
-                }
-            }
-            int sames = 0;
-            for (int k = 0; k < picked && best >= 0; k++) {
-                sames |= (best >>> k & 1) << picks[k];
-            }
-            return sames;
-        }
-
-        int leastSets() {
-            int found = 0;
-            for (int set = 0; set < 1 << picked; set++) {
-                if (holds(set) && !holdsWithLess(set)) {
-                    found++;
-                }
-            }
-            return found;
         }
 
         private boolean holdsWithLess(int set) {
