@@ -196,6 +196,11 @@ final class WhyBoundaries {
                 x.join(4 + k / 3, 5 + k / 3);
             }
             told("3 by 3 by 3 by 3", x.many(4, 8), 81);
+            // what was asked ahead is forgotten, be it of more SAMES or of fewer
+            int[] sets = {1, 3, 9, 27, 81};
+            for (int k = 0; k < 25; k++) {
+                told("many of " + (4 + k / 5) + ", " + (4 + k % 5), x.many(4 + k / 5, 4 + k % 5), sets[Math.abs(k / 5 - k % 5)]);
+            }
         });
     }
 
@@ -496,6 +501,8 @@ final class WhyBoundaries {
             told("6 is less than 9", Due.object(LEAVES + ";same p r;same p s;same s q;same r q;diff q p").core(), 6);
             told("one is fewer than two", Due.object(LEAVES + ";same p q;same q r;same s r;diff p r;diff s r").core(), 4);
             told("one is fewer than two, first", Due.object(LEAVES + ";same p q;same q r;same s r;diff s r;diff p r").core(), 4);
+            told("one, of another GROUP, is fewer than two", Due.object(LEAVES + ";term t=g(s);same p q;same q r;same s t;diff s t;"
+                    + "diff p r").core(), 4);
             told("none is the fewest", Due.object(LEAVES + ";same p q;diff p q;diff s s").core(), 0);
             told("none is the fewest, first", Due.object(LEAVES + ";same p q;diff s s;diff p q").core(), 0);
             told("one of two DIFFS, first", Due.object(LEAVES + ";same p q;same r s;diff p q;diff s r").core(), 1);
